@@ -404,7 +404,7 @@ public final class BracketTree {
         private int count;
 
         Tree() {
-            labels[0] = 'a';
+            put(labels, 0, 'a');
             count = 1;
         }
 

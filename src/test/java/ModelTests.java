@@ -1,6 +1,9 @@
-/** Long runs of chosen calls, each answered by the program and by the model, which must agree. */
+/**
+ * Long runs of chosen calls, each answered by the program and by the model, which must agree. Runs
+ * go on past the promised 512 calls, as the program counts none: one that did would need shorter ones.
+ */
 public final class ModelTests {
-    private static final int CALLS = 512;
+    private static final int CHOICES = 512;
     private static final int[] EXTREMES = {
         Integer.MIN_VALUE, Integer.MIN_VALUE + 1, -1000, -6, -5, -2, 101, 200, 1 << 27, 1 << 30,
         Integer.MAX_VALUE - 1, Integer.MAX_VALUE};
@@ -35,7 +38,7 @@ public final class ModelTests {
         letters = run % 3 == 0 ? 2 : run % 3 == 1 ? 4 : 26;
         growing = run % 2 == 0;
         StringBuilder calls = new StringBuilder();
-        for (int i = 0; i < CALLS && Check.failures() == 0; i++) {
+        for (int i = 0; i < CHOICES && Check.failures() == 0; i++) {
             int before = Check.failures();
             playCall(i);
             calls.append(call).append("; ");
@@ -105,10 +108,13 @@ public final class ModelTests {
 
     private void readWhole(int nodes) {
         String text = randomText(nodes);
-        tree.clearText();
-        model.clearText();
+        same("clearText()", model.clearText(), tree.clearText());
+        typeAndRead(text);
+    }
+
+    private void typeAndRead(String text) {
         for (int i = 0; i < text.length(); i++) {
-            same("type", model.type(text.charAt(i)), tree.type(text.charAt(i)));
+            same("type(" + text.charAt(i) + ")", model.type(text.charAt(i)), tree.type(text.charAt(i)));
         }
         same("read() of " + text, model.read(), tree.read());
     }
@@ -123,12 +129,11 @@ public final class ModelTests {
                 text.insert(place, "abc()()? ".charAt(pick(9)));
             }
         }
-        tree.clearText();
-        model.clearText();
-        for (int i = 0; i < text.length(); i++) {
-            same("type", model.type(text.charAt(i)), tree.type(text.charAt(i)));
+        // Now and then behind the old text, so that some texts get full.
+        if (pick(4) != 0) {
+            same("clearText()", model.clearText(), tree.clearText());
         }
-        same("read() of " + text, model.read(), tree.read());
+        typeAndRead(text.toString());
     }
 
     private void playEdit() {

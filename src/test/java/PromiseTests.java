@@ -177,6 +177,12 @@ public final class PromiseTests {
         Check.due("each reading is an edit", 1, tree.undo());
         is("undone readings", SAMPLE, tree);
         Check.due("the text stays at undo", 1, tree.clearText());
+        tree.clearText();
+        typeAll(tree, "abc");
+        tree.clearText();
+        typeAll(tree, "y");
+        Check.due("read nothing of the cleared text", 1, tree.read());
+        is("nothing of the cleared text", "y", tree);
         Check.due("read nested", 4, readingOf("a(b(c(d)))"));
         Check.due("read a list behind a list", 5, readingOf("a(b(c)d(e))"));
     }
@@ -404,6 +410,7 @@ public final class PromiseTests {
         Check.due("behind the level", NONE, tree.level(2, 5));
         Check.due("far behind the level", NONE, tree.level(2, MOST));
         Check.due("below the tree", NONE, tree.level(3, 0));
+        Check.due("only one root", NONE, tree.level(0, 1));
         Check.due("depth -1", BAD_VALUE, tree.level(-1, 0));
         Check.due("depth -1 for the number", BAD_VALUE, tree.level(-1, -1));
         Check.due("k of -2", BAD_VALUE, tree.level(0, -2));
@@ -500,6 +507,16 @@ public final class PromiseTests {
         Check.due("least excess there", 72, deep.block(3, 1));
         Check.due("excess before", 96, deep.block(3, 0));
         Check.due("last block of a chain", 8, deep.block(6, 3));
+        deep.setWidth(8);
+        Check.due("greatest excess not of the position behind", 8, deep.block(0, 2));
+        Check.due("least excess not of the position before", 9, deep.block(1, 1));
+        BracketTree odd = made("a(bc)");
+        odd.setWidth(5);
+        int[] lastOne = {1, 0, 0, 1};
+        for (int what = 0; what < 4; what++) {
+            Check.due("a block of one position " + what, lastOne[what], odd.block(1, what));
+        }
+        Check.due("blocks with one of one position", 2, odd.space(4));
         Check.due("least excess of one node", 0, new BracketTree().block(0, 1));
         Check.due("greatest excess of one node", 1, new BracketTree().block(0, 2));
     }
@@ -573,6 +590,7 @@ public final class PromiseTests {
         Check.due("far behind", NONE, tree.select(0, 'c', MOST));
         Check.due("in a subtree", 8, tree.select(6, 'c', 1));
         Check.due("not behind the subtree", NONE, tree.select(1, 'c', 2));
+        Check.due("not the node behind the subtree", NONE, tree.select(1, 'd', 0));
         Check.due("itself", 6, tree.select(6, 'b', 0));
         Check.due("none", NONE, tree.select(0, 'z', 0));
         Check.due("k of -1", BAD_VALUE, tree.select(0, 'c', -1));

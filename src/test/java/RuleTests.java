@@ -133,6 +133,6 @@ public final class RuleTests {
         for (String line : withoutComments(text).split("\n")) {
             brackets += line.matches(".*\\w\\[[^\\]]+\\].*") && !line.contains("new int[") ? 1 : 0;
         }
-        Check.due("lines that take an element: get, put and the first label", 3, brackets);
+        Check.due("lines that take an element: those of get and put", 2, brackets);
     }
 }
