@@ -1,9 +1,9 @@
 /**
- * Long runs of chosen calls, each answered by the program and by the model, which must agree. Runs
- * go on past the promised 512 calls, as the program counts none: one that did would need shorter ones.
+ * Long runs of chosen calls, each answered by the program and by the model, which must agree. A run
+ * ends with the 512th call of its object, the last one for which the document promises an answer.
  */
 public final class ModelTests {
-    private static final int CHOICES = 512;
+    private static final int CALLS = 512;
     private static final int[] EXTREMES = {
         Integer.MIN_VALUE, Integer.MIN_VALUE + 1, -1000, -6, -5, -2, 101, 200, 1 << 27, 1 << 30,
         Integer.MAX_VALUE - 1, Integer.MAX_VALUE};
@@ -13,12 +13,13 @@ public final class ModelTests {
     private long state;
     private BracketTree tree;
     private ModelTree model;
-    private String call;
+    private int played;
+    private StringBuilder calls;
     private int letters;
     private boolean growing;
 
     public static void main(String[] args) {
-        int runs = args.length > 0 ? Integer.parseInt(args[0]) : 600;
+        int runs = args.length > 0 ? Integer.parseInt(args[0]) : 2000;
         for (int run = 0; run < runs && Check.failures() == 0; run++) {
             new ModelTests().playRun(run);
         }
@@ -37,22 +38,20 @@ public final class ModelTests {
         model = new ModelTree();
         letters = run % 3 == 0 ? 2 : run % 3 == 1 ? 4 : 26;
         growing = run % 2 == 0;
-        StringBuilder calls = new StringBuilder();
-        for (int i = 0; i < CHOICES && Check.failures() == 0; i++) {
-            int before = Check.failures();
-            playCall(i);
-            calls.append(call).append("; ");
-            if (Check.failures() > before) {
-                System.out.println("run " + run + ": " + calls + " in " + model.text());
-            }
+        calls = new StringBuilder();
+        if (pick(3) == 0) {
+            readWhole(big() ? 100 : 1 + pick(60));
         }
-        compareTrees();
+        while (played < CALLS && Check.failures() == 0) {
+            playCall();
+        }
+        if (Check.failures() > 0) {
+            System.out.println("run " + run + ": " + calls + "in " + model.text());
+        }
     }
 
-    private void playCall(int i) {
-        if (i == 0 && pick(3) == 0) {
-            readWhole(big() ? 100 : 1 + pick(60));
-        } else if (pick(100) < (growing ? 55 : 30)) {
+    private void playCall() {
+        if (pick(100) < (growing ? 55 : 30)) {
             playEdit();
         } else {
             playQuestion();
@@ -64,7 +63,8 @@ public final class ModelTests {
     }
 
     private void same(String what, int want, int got) {
-        call = what;
+        played++;
+        calls.append(what).append("; ");
         Check.due(what, want, got);
     }
 
@@ -113,6 +113,9 @@ public final class ModelTests {
     }
 
     private void typeAndRead(String text) {
+        if (text.length() >= CALLS - played) {
+            return;
+        }
         for (int i = 0; i < text.length(); i++) {
             same("type(" + text.charAt(i) + ")", model.type(text.charAt(i)), tree.type(text.charAt(i)));
         }
@@ -180,7 +183,7 @@ public final class ModelTests {
     private void askWay() {
         int node = someNode();
         int other = someNode();
-        switch (pick(11)) {
+        switch (pick(12)) {
             case 0 -> same("size()", model.size(), tree.size());
             case 1, 2 -> {
                 int what = some(10);
@@ -212,10 +215,8 @@ public final class ModelTests {
                 int k = some(5);
                 same("level(" + depth + ", " + k + ")", model.level(depth, k), tree.level(depth, k));
             }
-            default -> {
-                same("byPostorder(" + node + ")", model.byPostorder(node), tree.byPostorder(node));
-                same("deepest(" + node + ")", model.deepest(node), tree.deepest(node));
-            }
+            case 10 -> same("byPostorder(" + node + ")", model.byPostorder(node), tree.byPostorder(node));
+            default -> same("deepest(" + node + ")", model.deepest(node), tree.deepest(node));
         }
     }
 
@@ -223,7 +224,7 @@ public final class ModelTests {
         int node = someNode();
         int other = someNode();
         char label = someLabel();
-        switch (pick(11)) {
+        switch (pick(12)) {
             case 0, 1 -> {
                 int position = some(2 * model.size());
                 int what = some(4);
@@ -252,34 +253,13 @@ public final class ModelTests {
             }
             case 8 -> same("ancestorWith(" + node + ", " + label + ")",
                     model.ancestorWith(node, label), tree.ancestorWith(node, label));
-            case 9 -> {
-                same("areEqual(" + node + ", " + other + ")",
-                        model.areEqual(node, other), tree.areEqual(node, other));
-                same("copies(" + node + ")", model.copies(node), tree.copies(node));
-            }
+            case 9 -> same("areEqual(" + node + ", " + other + ")",
+                    model.areEqual(node, other), tree.areEqual(node, other));
+            case 10 -> same("copies(" + node + ")", model.copies(node), tree.copies(node));
             default -> {
                 int k = some(model.written(-1));
                 same("written(" + k + ")", model.written(k), tree.written(k));
             }
-        }
-    }
-
-    // At the end of a run, everything that can be asked without a change.
-    private void compareTrees() {
-        int n = model.size();
-        for (int node = -1; node <= n; node++) {
-            for (int what = -1; what <= 11; what++) {
-                same("node(" + node + ", " + what + ")", model.node(node, what), tree.node(node, what));
-            }
-            for (int which = -1; which <= 6; which++) {
-                same("neighbour(" + node + ", " + which + ")",
-                        model.neighbour(node, which), tree.neighbour(node, which));
-            }
-            same("copies(" + node + ")", model.copies(node), tree.copies(node));
-            same("byPostorder(" + node + ")", model.byPostorder(node), tree.byPostorder(node));
-        }
-        for (int k = -2; k <= model.text().length(); k++) {
-            same("written(" + k + ")", model.written(k), tree.written(k));
         }
     }
 }

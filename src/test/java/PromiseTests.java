@@ -1,16 +1,5 @@
 /** Each promise by hand: ordinary inputs, the edges that the document names, wrong inputs. */
-public final class PromiseTests {
-    private static final int UNKNOWN = BracketTree.UNKNOWN;
-    private static final int BAD_VALUE = BracketTree.BAD_VALUE;
-    private static final int NOT_POSSIBLE = BracketTree.NOT_POSSIBLE;
-    private static final int FULL = BracketTree.FULL;
-    private static final int NONE = BracketTree.NONE;
-    private static final int LEAST = Integer.MIN_VALUE;
-    private static final int MOST = Integer.MAX_VALUE;
-
-    // Nodes: 0 a, 1 b, 2 c, 3 c, 4 d, 5 e, 6 b, 7 c, 8 c, 9 f
-    private static final String SAMPLE = "a(b(cc)d(e)b(cc)f)";
-
+public final class PromiseTests extends TreeTest {
     public static void main(String[] args) {
         constants();
         promise1NewObject();
@@ -48,66 +37,6 @@ public final class PromiseTests {
         promise31Undo();
         errorsChangeNothing();
         Check.close("PromiseTests");
-    }
-
-    // ---- helpers
-
-    private static int typeAll(BracketTree tree, String text) {
-        int length = 0;
-        for (int i = 0; i < text.length(); i++) {
-            length = tree.type(text.charAt(i));
-        }
-        return length;
-    }
-
-    private static BracketTree made(String text) {
-        BracketTree tree = new BracketTree();
-        typeAll(tree, text);
-        if (tree.read() < 1) {
-            Check.fail("reading " + text);
-        }
-        return tree;
-    }
-
-    private static int readingOf(String text) {
-        BracketTree tree = new BracketTree();
-        tree.setLabel(0, 'q');
-        typeAll(tree, text);
-        int answer = tree.read();
-        if (answer < 0) {
-            is("the tree after a fault in " + text, "q", tree);
-        }
-        return answer;
-    }
-
-    private static String written(BracketTree tree) {
-        StringBuilder text = new StringBuilder();
-        int length = tree.written(-1);
-        for (int k = 0; k < length; k++) {
-            text.append((char) tree.written(k));
-        }
-        return text.toString();
-    }
-
-    private static void is(String what, String want, BracketTree tree) {
-        String got = written(tree);
-        if (want.equals(got)) {
-            Check.due(what, 0, 0);
-        } else {
-            Check.fail(what + " is " + got + ", due is " + want + ",");
-        }
-    }
-
-    private static String repeat(String part, int times) {
-        return part.repeat(times);
-    }
-
-    private static String chain(int nodes) {
-        return repeat("a(", nodes - 1) + "a" + repeat(")", nodes - 1);
-    }
-
-    private static String star(int nodes) {
-        return "a(" + repeat("b", nodes - 1) + ")";
     }
 
     // ---- promises
@@ -226,7 +155,9 @@ public final class PromiseTests {
         Check.due("300 open characters", -100 - 200, readingOf(repeat("a(", 150)));
         Check.due("300 letters", -101, readingOf(repeat("a", 300)));
         BracketTree tree = made(chain(100));
-        is("chain of 100", chain(100), tree);
+        for (int node = 0; node < 100; node++) {
+            Check.due("depth in the chain of 100", node, tree.node(node, 0));
+        }
         Check.due("length of its text", 298, tree.written(-1));
     }
 

@@ -31,7 +31,7 @@ public final class RuleTests {
     public static void main(String[] args) throws IOException {
         publicFace();
         noOtherMembers();
-        String text = Files.readString(Path.of(args[0]));
+        String text = Files.readString(Path.of("src/main/java/BracketTree.java"));
         onlyInsideTheLanguage(text);
         shortMethods(text);
         rowsThroughTheTwoDoors(text);
