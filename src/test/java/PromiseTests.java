@@ -36,6 +36,7 @@ public final class PromiseTests extends TreeTest {
         promise30Move();
         promise31Undo();
         errorsChangeNothing();
+        readmesExample();
         Check.close("PromiseTests");
     }
 
@@ -771,5 +772,27 @@ public final class PromiseTests extends TreeTest {
         is("errors", SAMPLE, tree);
         Check.due("errors are not recorded", 2, tree.undo());
         is("the edit before the errors", SAMPLE.replace('f', 'g'), tree);
+    }
+
+    // README.md shows these calls with these answers; change both together.
+    private static void readmesExample() {
+        BracketTree tree = made("a(b(cc)d)");
+        Check.due("README: size()", 5, tree.size());
+        Check.due("README: node(1, 3)", 3, tree.node(1, 3));
+        Check.due("README: node(0, 1)", NONE, tree.node(0, 1));
+        Check.due("README: way(2, 4, -1)", 3, tree.way(2, 4, -1));
+        Check.due("README: way(2, 4, 1)", 1, tree.way(2, 4, 1));
+        Check.due("README: select(0, 'c', 1)", 3, tree.select(0, 'c', 1));
+        Check.due("README: copies(2)", 2, tree.copies(2));
+        Check.due("README: insert(0, 2, 'e')", 5, tree.insert(0, 2, 'e'));
+        is("README: the tree after insert", "a(b(cc)de)", tree);
+        Check.due("README: bracket(1, 2)", 6, tree.bracket(1, 2));
+        Check.due("README: block(0, 2)", 3, tree.block(0, 2));
+        Check.due("README: move(1, 4, 0)", 2, tree.move(1, 4, 0));
+        is("README: the tree after move", "a(d(b(cc))e)", tree);
+        Check.due("README: move(1, 2, 0)", NOT_POSSIBLE, tree.move(1, 2, 0));
+        Check.due("README: undo()", 2, tree.undo());
+        Check.due("README: undo() again", 1, tree.undo());
+        is("README: the tree at last", "a(b(cc)d)", tree);
     }
 }
